@@ -631,12 +631,13 @@ public final class CarriedLetters {
             return true;
         }
 
+        /** All of another row or, where there is no room for it, nothing. */
         boolean addAll(Row more) {
-            for (int k = 0; k < more.length; k++) {
-                if (!add(more.at(k))) {
-                    return false;
-                }
+            if (length + more.length > letters.length) {
+                return false;
             }
+            System.arraycopy(more.letters, 0, letters, length, more.length);
+            length += more.length;
             return true;
         }
 
@@ -654,7 +655,15 @@ public final class CarriedLetters {
         }
 
         boolean same(Row with) {
-            return length == with.length && agrees(0, with);
+            if (length != with.length) {
+                return false;
+            }
+            for (int k = 0; k < length; k++) {
+                if (letters[k] != with.letters[k]) {
+                    return false;
+                }
+            }
+            return true;
         }
 
         /** Whether this row from a place on and another one are alike as far as both go. */
@@ -1855,7 +1864,7 @@ public final class CarriedLetters {
                     continue;
                 }
                 script.turnAside(p, i);
-                int left = doubledWithout(at, count(n));
+                int left = doubledWithout(at, count(n), fewest);
                 script.turnAside(p, i);
                 if (left < fewest) {
                     fewest = left;
@@ -1866,11 +1875,11 @@ public final class CarriedLetters {
             return found;
         }
 
-        /** How many of the first words are doubled while the one rule is aside that serves in all else that is known. */
-        private int doubledWithout(int rule, int count) {
+        /** How many of the first words are doubled without one rule, which is aside now; what is no fewer than enough is not counted on. */
+        private int doubledWithout(int rule, int count, int enough) {
             int all = 0;
             trial.forget();
-            for (int k = 0; k < count; k++) {
+            for (int k = 0; k < count && all < enough; k++) {
                 int twin;
                 if ((served[k] >> rule & 1) == 0) {
                     // It comes out as it did: the rule never served for it.

@@ -555,6 +555,10 @@ public final class CarriedLettersPromises {
         due("shifted", x.apart(word("abcdef"), word("bcdefa")), 2);
         due("what comes out", x.apart(word("g"), word("abd")), 1);
         due("trouble", x.trouble(), 0);
+        CarriedLetters most = told("script letters 2;pass;rule a to aaaa;rule b to bbbb;pass;rule a to aa;rule b to cc;rule h to dddd");
+        due("60 letters and 60", most.apart(word("aaaaaaah"), word("bbbbbbbh")), 56);
+        due("60 letters and one", most.apart(word("aaaaaaah"), word("e")), 60);
+        due("one and 60 letters", most.apart(word("e"), word("aaaaaaah")), 60);
         refused(x, "first", x.apart(0, word("a")), 2);
         refused(x, "second", x.apart(word("a"), 0), 2);
         CarriedLetters y = told("script letters 4;pass again;rule a to b;rule b to a;rule c to cc");
@@ -638,6 +642,10 @@ public final class CarriedLettersPromises {
         refused(x, "n", x.firstFail(7, 1), 2);
         CarriedLetters late = told("script letters 2;pass again;rule ba to ab;pass again;rule abb to abbb");
         due("a longer one", late.firstFail(5, 1), word("abb"));
+        CarriedLetters behind = told("script letters 2;pass;rule after edge aa before edge to h;pass again;rule h to hh");
+        due("aa", behind.firstFail(2, 0), word("aa"));
+        refused(behind, "what is known of more letters is not told", behind.firstFail(1, 0), 5);
+        due("nor counted", behind.fails(1, 0), 0);
         promise = "36";
         due("b", x.sources(2, word("b")), 4);
         due("none", x.sources(5, word("hh")), 0);
@@ -651,6 +659,10 @@ public final class CarriedLettersPromises {
         refused(x, "i", x.source(2, word("b"), 4), 1);
         refused(x, "i", x.source(2, word("b"), -1), 1);
         refused(x, "2 ahead of i", x.source(2, 0, -1), 2);
+        CarriedLetters wide = told("script letters 2;pass;rule aa to h");
+        due("aa", wide.source(2, word("h"), 0), word("aa"));
+        refused(wide, "known, but longer than n", wide.source(1, word("h"), 0), 1);
+        due("nor counted", wide.sources(1, word("h")), 0);
         due("eight letters", told("script letters 2;pass;rule a to abcd").source(2, word("abcdabcd"), 0), word("aa"));
         promise = "38";
         due("longest", x.longest(2), 2);
@@ -770,6 +782,21 @@ public final class CarriedLettersPromises {
         due("as it was ahead of them", x.rule(0, 0, 4), 1);
         x.aside(0, 1, 1);
         due("a refused act is none", x.aside(0, 1, 1) + x.size(1), 0);
+
+        StringBuilder sixteen = new StringBuilder("script letters 2");
+        for (int k = 0; k < 16; k++) {
+            sixteen.append(k % 8 == 0 ? ";pass" : "").append(";rule a to b");
+        }
+        CarriedLetters row = told(sixteen.toString());
+        for (int k = 0; k < 14; k++) {
+            due("aside", row.aside(k / 8, k % 8, 1), k + 1);
+        }
+        for (int k = 13; k >= 2; k--) {
+            due("undo", row.undo() ? 1 : 0, 1);
+            due("the latest first", row.rule(k / 8, k % 8, 4), 0);
+        }
+        due("undo", row.undo() ? 1 : 0, 0);
+        due("the oldest are kept no more", row.rule(0, 0, 4) + row.rule(0, 1, 4), 2);
 
         promise = "46";
         CarriedLetters e = told("script letters 2;pass;pass;rule a to b;rule b to a;pass again");
