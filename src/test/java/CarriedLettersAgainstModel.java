@@ -9,9 +9,7 @@ import java.util.NoSuchElementException;
 import java.util.Random;
 
 /** Many runs of calls, made by a fixed row of numbers, against a model that does the document's words the slow way. */
-public final class CarriedLettersAgainstModel {
-    private static final int THROWN = -99;
-
+public final class CarriedLettersAgainstModel extends Asking {
     // ---- the model
 
     private static final class Fault extends Exception {
@@ -960,15 +958,9 @@ public final class CarriedLettersAgainstModel {
     }
 
     private static void feed(CarriedLetters x, Model model, String text) {
-        StringBuilder padded = new StringBuilder(text);
-        while (padded.length() % 20 != 0) {
-            padded.append(' ');
-        }
+        String padded = text + " ".repeat((20 - text.length() % 20) % 20);
         for (int at = 0; at < padded.length(); at += 20) {
-            int[] n = new int[5];
-            for (int k = 0; k < 20; k++) {
-                n[k / 4] = n[k / 4] << 8 | padded.charAt(at + k);
-            }
+            int[] n = twenty(padded, at);
             int due = -1;
             if (model.tape.length() + 20 <= 900) {
                 model.tape.append(padded, at, at + 20);

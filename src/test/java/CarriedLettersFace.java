@@ -15,7 +15,7 @@ import java.util.Set;
 import java.util.TreeSet;
 
 /** The public face, the language's rules as far as they show, and that no arguments make the machine throw. */
-public final class CarriedLettersFace {
+public final class CarriedLettersFace extends Asking {
     private static final String FACE = "feed(int,int,int,int,int)int script(int)int fault()int where()int about(int)int kind(int)int "
             + "pass(int,int)int rule(int,int,int)int letter(int,int,int,int)int goes(int,int,int)int depth(int,int)int ends(int,int)int "
             + "pieces(int)int piece(int,int)int clear(int)int unclear(int)int readings(int,long)int reading(int,long,int)int sure()int "
@@ -110,16 +110,6 @@ public final class CarriedLettersFace {
                 must(k - from <= 60, "long: " + lines[from]);
                 from = -1;
             }
-        }
-    }
-
-    private static void feed(CarriedLetters x, String text) {
-        for (int at = 0; at < text.length(); at += 20) {
-            int[] n = new int[5];
-            for (int k = 0; k < 20; k++) {
-                n[k / 4] = n[k / 4] << 8 | (at + k < text.length() ? text.charAt(at + k) : ' ');
-            }
-            x.feed(n[0], n[1], n[2], n[3], n[4]);
         }
     }
 
