@@ -277,6 +277,65 @@ public final class CarriedLettersBoundsOfCalls extends Asking {
         due("the first that is aside now", y.aside(0, 1, 1), 1);
     }
 
+    /** All that a script tells, on an object that was told others ahead of it and on a new one. */
+    private static void scriptAnew() {
+        about("3: The first n bytes of THE TAPE are the SCRIPT from now on: nothing of those ahead of it is left");
+        String[] texts = {
+            "script letters 4;kind kk of abcdefg;kind kl of h;pass again;rule after kk abc before kl to aaaa;rule hhh to hgfe;rule a to b;pass again;"
+                    + "rule aa to a;rule bb to b;rule cab to c;pass;rule d to none;rule after edge e before edge to h",
+            "script letters 2;pass;rule a to none;rule b to c",
+            "script letters 3;kind kl of ab;pass;rule c to d;rule aaa before kl to none;rule d to none;rule e to none;pass;rule b to hh"};
+        for (int first = 0; first < 3; first++) {
+            for (int then = 0; then < 3; then++) {
+                CarriedLetters x = new CarriedLetters();
+                for (int k = 0; k < 3; k++) {
+                    tell(x, texts[first]);
+                    for (int i = 0; i < 8; i++) {
+                        x.aside(i % 3, i / 3, 1);
+                    }
+                    x.comeBack(2);
+                    x.worst(2);
+                }
+                for (int k = 0; k < 2; k++) {
+                    tell(x, texts[then]);
+                    asNew(x, told(texts[then]));
+                }
+            }
+        }
+    }
+
+    private static void asNew(CarriedLetters x, CarriedLetters fresh) {
+        for (int what = 0; what < 4; what++) {
+            due("about " + what, x.about(what), fresh.about(what));
+            due("kind " + what, x.kind(what), fresh.kind(what));
+        }
+        for (int p = 0; p < 3; p++) {
+            due("again " + p, x.pass(p, 1), fresh.pass(p, 1));
+            due("states " + p, x.pass(p, 2), fresh.pass(p, 2));
+            due("pieces " + p, x.pieces(p), fresh.pieces(p));
+            due("idle " + p, x.idle(p, 2), fresh.idle(p, 2));
+            for (int i = 0; i < 4; i++) {
+                for (int what = 0; what < 5; what++) {
+                    due("rule " + p + " " + i + " " + what, x.rule(p, i, what), fresh.rule(p, i, what));
+                }
+                due("ends " + p + " " + i, x.ends(p, i), fresh.ends(p, i));
+            }
+        }
+        for (String letters : new String[] {"a", "b", "c", "h", "aaab", "abch", "hhhe", "dcba", "babca", "cabbage"}) {
+            due("carry " + letters, x.carry(word(letters)), fresh.carry(word(letters)));
+            due("trouble of " + letters, x.trouble(), fresh.trouble());
+            due("its first letter", x.out(0), fresh.out(0));
+            due("turned " + letters, x.turned(word(letters)), fresh.turned(word(letters)));
+            due("trouble of it", x.trouble(), fresh.trouble());
+        }
+        due("words", x.words(2), fresh.words(2));
+        due("doubled", x.doubled(2), fresh.doubled(2));
+        due("lost", x.lost(2), fresh.lost(2));
+        due("worst", x.worst(2), fresh.worst(2));
+        due("empty", emptyOf(x, 0), emptyOf(fresh, 0));
+        due("to undo", x.size(1), 0);
+    }
+
     private static void scriptStays() {
         about("3: script: NONE: 4 (the SCRIPT stays)");
         CarriedLetters x = told(FIRST);
@@ -632,6 +691,8 @@ public final class CarriedLettersBoundsOfCalls extends Asking {
         CarriedLetters fail = told(PASS + "rule a to a;rule b to b;rule ba to b;pass again;rule b to bb");
         answered(fail, "what serves for one that FAILS alone", fail.idle(0, 5), 6);
         answered(fail, "and makes it FAIL", fail.idle(1, 5), 1);
+        CarriedLetters nothing = told(PASS + "rule a to none;rule b to none");
+        answered(nothing, "a WORD that comes out as nothing doesn't FAIL", nothing.idle(0, 1), 0);
         CarriedLetters longer = told(PASS + "rule aaa to b");
         answered(longer, "not up to 2", longer.idle(0, 2), 1);
         answered(longer, "up to 3", longer.idle(0, 3), 0);
@@ -648,7 +709,11 @@ public final class CarriedLettersBoundsOfCalls extends Asking {
         answered(none, "nothing comes back as nothing", none.comeBack(5), 0);
         CarriedLetters grow = told(TWO + "pass;rule a to c;pass again;rule dd to d;rule c to d");
         answered(grow, "TURNED a is TOO LONG, b comes back", grow.comeBack(1), 1);
+        CarriedLetters sixty = told(PASS + "rule a to aaaa;rule b to bbbb;pass;rule a to aaa;rule b to bbb");
+        answered(sixty, "60 LETTERS", sixty.longest(5), 60);
+        answered(sixty, "come back, too", sixty.comeBack(5), 62);
         about("42: lost, -1: 1; 2; 5 (all do)");
+        refused(sixty, "all do", sixty.lost(5), 5);
         refused(same, "all do", same.lost(5), 5);
         refused(all, "all FAIL: none that doesn't", all.lost(5), 5);
         answered(none, "a", none.lost(5), A);
@@ -668,8 +733,22 @@ public final class CarriedLettersBoundsOfCalls extends Asking {
         answered(like, "each without the other makes none fewer", like.worst(3), -2);
         due("they are DOUBLED all the same", like.doubled(1), 1);
         due("and none is put aside", like.rule(0, 0, 4) + like.rule(0, 1, 4) + like.size(1), 0);
-        CarriedLetters fails = told(TWO + "pass;rule b to a;rule a to a;pass again;rule c to cc");
+        // Without the first those with a c, which it never serves for, FAIL as they did: none of them is ALIKE.
+        CarriedLetters fails = told("script letters 3;pass;rule b to a;rule h to h;pass again;rule c to cc");
+        answered(fails, "five FAIL, of the others four are", fails.doubled(2), 4);
         answered(fails, "b to a", fails.worst(2), 0);
+        CarriedLetters nothing = told(PASS + "rule a to none;rule a to none;rule b to h");
+        answered(nothing, "aa, ab, ba", nothing.doubled(2), 3);
+        answered(nothing, "without the last a and aa come out as nothing yet", nothing.worst(2), -2);
+        nothing.aside(0, 1, 1);
+        answered(nothing, "without the first none is", nothing.worst(2), 0);
+        // The first keeps a and b unlike if it serves: but it is aside, and asking leaves it so.
+        CarriedLetters helps = told(PASS + "rule a to c;pass;rule b to a");
+        helps.aside(0, 0, 1);
+        answered(helps, "b is", helps.doubled(1), 1);
+        answered(helps, "that the first would serve again is no way", helps.worst(1), 10);
+        answered(helps, "it is aside yet", helps.rule(0, 0, 4), 1);
+        answered(helps, "the second isn't", helps.rule(1, 0, 4), 0);
     }
 
     private static void asideRefused() {
@@ -785,6 +864,7 @@ public final class CarriedLettersBoundsOfCalls extends Asking {
         wordsThatCannotBe();
         feeding();
         scriptOfN();
+        scriptAnew();
         scriptStays();
         faultAndPlace();
         farScript();

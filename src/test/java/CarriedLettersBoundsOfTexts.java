@@ -130,9 +130,35 @@ public final class CarriedLettersBoundsOfTexts extends Asking {
         faulty("script letters ;", 1, 15);
     }
 
+    /** A NAME is known by all its letters: one with its first or its last letter changed is another one. */
+    private static void namesOfTheText() {
+        about("FORM: TOKEN with which no SCRIPT goes on");
+        String text = HEAD + "kind kk of ab;pass again;rule after kk ab before edge to none";
+        told(text);
+        for (String name : new String[] {"script", "letters", "kind", "of", "pass", "again", "rule", "before", "to"}) {
+            int at = text.indexOf(name);
+            int last = at + name.length() - 1;
+            faulty(text.substring(0, at) + "z" + text.substring(at + 1), 1, at);
+            faulty(text.substring(0, last) + "z" + text.substring(last + 1), 1, at);
+            faulty(text.substring(0, last) + text.substring(last + 1), 1, at);
+            // Without again a PASS is one all the same.
+            if (!name.equals("again")) {
+                faulty(text.substring(0, at) + text.substring(last + 1), 1, at + 1);
+            }
+        }
+        faulty(HEAD + "kind kk of ab;pass;rule zfter kk ab to b", 1, 41);
+        faulty(HEAD + "kind kk of ab;pass;rule after zdge ab to b", 4, 47);
+        faulty(RULE + "a to zone", 1, 32);
+        faulty(RULE + "a to nonz", 1, 32);
+    }
+
     private static void marks() {
         about("LINE {; LINE}");
         faulty("", 1, 0);
+        CarriedLetters x = new CarriedLetters();
+        feed(x, "  " + WHOLE);
+        refused(x, "no byte of some", x.script(0), 4);
+        due("its end is 0, whatever stands behind it", x.where(), 0);
         faulty(";", 1, 0);
         faulty(";" + WHOLE, 1, 0);
         faulty("script letters 2;;pass;rule a to b", 1, 17);
@@ -441,6 +467,8 @@ public final class CarriedLettersBoundsOfTexts extends Asking {
         CarriedLetters x = told(WHOLE);
         refused(x, "a PASS of the script ahead is none", tell(x, HEAD + "rule a to b"), 4);
         due("fault", x.fault(), 6);
+        due("at that RULE, not at the end", x.where(), 17);
+        due("the script ahead has no RULE more", x.about(3), 1);
         about("6 LACKS: at the end: no RULE");
         faulty("script letters 2", 6, 16);
         faulty("script letters 2 ", 6, 17);
@@ -458,6 +486,7 @@ public final class CarriedLettersBoundsOfTexts extends Asking {
         everyByte();
         names();
         wholes();
+        namesOfTheText();
         marks();
         sourceOf2To4();
         aheadOfAllOthers();

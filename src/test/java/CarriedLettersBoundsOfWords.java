@@ -226,6 +226,25 @@ public final class CarriedLettersBoundsOfWords extends Asking {
         due("nothing is turned", none.turned(word("abcdefgh")), 8);
         due("as it was", none.turnedOut(word("abcdefgh"), 7), 7);
         due("they are not put aside for it", none.rule(0, 0, 4), 0);
+        about("TURNED: .. of RULES (those put aside aside)");
+        CarriedLetters aside = told(PASS + "rule a to bb;rule c to bb;pass;rule b to d");
+        due("d d to b b to a", aside.turnedOut(word("dd"), 0), 0);
+        aside.aside(0, 0, 1);
+        due("the other one", aside.turnedOut(word("dd"), 0), 2);
+        aside.aside(1, 0, 1);
+        due("none", aside.turnedOut(word("dd"), 0), 3);
+        aside.undo();
+        aside.undo();
+        due("undone", aside.turned(word("dd")), 1);
+        due("a", aside.turnedOut(word("dd"), 0), 0);
+        about("TURNED: eight OUTCOMES of 4 LETTERS with no beginning in common");
+        CarriedLetters eight = told(PASS + "rule b to haaa;rule c to gaaa;rule d to faaa;rule e to eaaa;rule f to daaa;rule g to caaa;rule h to baaa;rule a to aaaa");
+        for (int k = 0; k < 8; k++) {
+            String outcome = (char) ('h' - k) + "aaa";
+            due("one", eight.turned(word(outcome)), 1);
+            due("its MATCH", eight.turnedOut(word(outcome), 0), (k + 1) % 8);
+            due("two", eight.turned(word(outcome + outcome)), 2);
+        }
         about("TURNED: TOO LONG, ENDLESS");
         CarriedLetters grow = told(PASS + "rule aaa to b;rule bb to c;pass;rule bbb to d;rule bb to e");
         // d to bbb to nine a, e to bb to six: six d and an e are 60, with an h 61.
@@ -298,6 +317,56 @@ public final class CarriedLettersBoundsOfWords extends Asking {
         CarriedLetters first = told(PASS + "rule after edge b to baaa;rule b to aaaa;rule a to aaaa;pass;rule a to aaa;rule b to baa");
         due("the first letter", first.apart(word("aaaaa"), word("baaaa")), 1);
         due("62 less twice five", first.doubled(5), 52);
+    }
+
+    /** So many outcomes that are unlike as there may be, and a few that aren't. */
+    private static void nearlyAllUnlike() {
+        about("A WORD is DOUBLED, if some WORD ahead of it is ALIKE: 1364 of them");
+        CarriedLetters few = told("script letters 4;pass;rule ddd before edge to ddc");
+        due("those that end in ddd", few.doubled(5), 1 + 4 + 16);
+        due("the first", few.failing(5, 0), word("ddd"));
+        due("alike to it", few.failing(5, 1), word("ddc"));
+        due("it comes out as one with", few.sources(5, word("ddddc")), 2);
+        due("the very last word", few.source(5, word("ddddc"), 1), word("ddddd"));
+        CarriedLetters none = told("script letters 4;pass;rule h to a");
+        due("none", none.doubled(5), 0);
+        due("reversible", none.reversible(5), 1);
+    }
+
+    /** What is known of words must not outlive the rules it is known by. */
+    private static void learnedAnew() {
+        about("ACTS: words up to n come out as the RULES are now");
+        CarriedLetters x = told(PASS + "rule b to a;pass;rule a to aa");
+        for (int k = 0; k < 3; k++) {
+            due("b comes back, a as b", x.comeBack(1), 1);
+            due("a", x.lost(1), word("a"));
+            due("all come out as a's", x.doubled(2), 4);
+            due("not reversible", x.reversible(2), 0);
+            due("longest", x.longest(2), 4);
+            due("both serve", x.idle(0, 1) + x.idle(1, 1), 0);
+            due("worst", x.worst(2), 0);
+            due("sources", x.sources(1, word("aa")), 2);
+            due("source", x.source(1, word("aa"), 1), word("b"));
+            x.aside(0, 0, 1);
+            due("both come back", x.comeBack(1), 2);
+            refused(x, "none is lost", x.lost(2), 5);
+            due("none is DOUBLED", x.doubled(2), 0);
+            due("reversible", x.reversible(2), 1);
+            due("worst", x.worst(2), -2);
+            due("idle", x.idle(0, 1), 1);
+            due("sources", x.sources(1, word("aa")), 1);
+            if (k == 1) {
+                x.aside(0, 0, 0);
+            } else {
+                x.undo();
+            }
+        }
+        tell(x, TWO + "pass again;rule a to aa");
+        due("a script anew", x.fails(1, 0), 1);
+        due("b", x.lost(5), -1);
+        tell(x, "script letters 3;pass;rule a to b");
+        due("more words", x.doubled(1), 1);
+        due("none fails now", x.fails(1, 0), 0);
     }
 
     // ---- pieces
@@ -453,6 +522,8 @@ public final class CarriedLettersBoundsOfWords extends Asking {
         turnedRound();
         wordsInOrder();
         failsAndDoubled();
+        nearlyAllUnlike();
+        learnedAnew();
         piecesOfAPass();
         readingsOfLetters();
         clearPasses();
