@@ -1015,6 +1015,10 @@ public final class CarriedLettersAgainstModel extends Asking {
             c = 15;
         }
         long[] a = {someNumber(3), someNumber(below(2) == 0 ? 3 : 10), someNumber(below(2) == 0 ? 2 : 8), someNumber(8), someWord(), someWord()};
+        if (c == 0 || c == 1 || c == 16) {
+            // No number of a PASS.
+            a[0] = someNumber(6);
+        }
         if (c >= 26) {
             // Longer words now and then: the model is slow.
             a[0] = below(25) == 0 ? below(8) - 1 : 1 + below(below(8) == 0 ? 4 : 3);

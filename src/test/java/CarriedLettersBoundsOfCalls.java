@@ -124,6 +124,57 @@ public final class CarriedLettersBoundsOfCalls extends Asking {
         answered(all, "longest", all.longest(2), -2);
     }
 
+    private static CarriedLetters refusedBefore(CarriedLetters x) {
+        refused(x, "the call ahead", x.kind(-1), 1);
+        return x;
+    }
+
+    /** Each kind of answer of a call on its own: none of them may leave the trouble of the call ahead. */
+    private static void eachAnswerLeavesNone() {
+        about("III: TROUBLE: 0 it wasn't, whatever was asked for");
+        CarriedLetters x = told(FIRST);
+        int[] counts = {3, 1, 2, 4};
+        for (int what = 0; what < 4; what++) {
+            answered(x, "about " + what, refusedBefore(x).about(what), counts[what]);
+        }
+        int[][] passes = {{3, 0, 4}, {1, 1, 3}};
+        for (int p = 0; p < 2; p++) {
+            for (int what = 0; what < 3; what++) {
+                answered(x, "pass " + p + " " + what, refusedBefore(x).pass(p, what), passes[p][what]);
+            }
+        }
+        int[][] rules = {{2, 1, 511, 511, 0}, {1, 1, 511, 256, 1}, {1, 0, 5, 511, 0}};
+        x.aside(0, 1, 1);
+        for (int i = 0; i < 3; i++) {
+            for (int what = 0; what < 5; what++) {
+                answered(x, "rule " + i + " " + what, refusedBefore(x).rule(0, i, what), rules[i][what]);
+            }
+        }
+        answered(x, "MATCH", refusedBefore(x).letter(0, 0, 0, 1), 1);
+        answered(x, "OUTCOME", refusedBefore(x).letter(0, 0, 1, 0), 2);
+        answered(x, "serves again", refusedBefore(x).aside(0, 1, 0), 0);
+        answered(x, "a beginning of no RULE's own", refusedBefore(x).ends(0, 0), 0);
+        answered(x, "not CLEAR", refusedBefore(x).clear(0), 0);
+        answered(x, "0 with a PIECE of none", refusedBefore(x).unclear(0), 0);
+        answered(x, "a READING", refusedBefore(x).readings(0, A), 1);
+        CarriedLetters bold = told(BOLD);
+        answered(bold, "no READING", refusedBefore(bold).readings(0, A), 0);
+        answered(x, "again: not SURE", refusedBefore(x).sure(), 0);
+        CarriedLetters sure = told(PASS + "rule a to ab;rule b to a");
+        answered(sure, "CLEAR", refusedBefore(sure).clear(0), 1);
+        answered(sure, "SURE", refusedBefore(sure).sure(), 1);
+        CarriedLetters unclear = told(PASS + "rule a to b");
+        answered(unclear, "not SURE", refusedBefore(unclear).sure(), 0);
+        answered(unclear, "DOUBLED", refusedBefore(unclear).reversible(1), 0);
+        answered(unclear, "the first", refusedBefore(unclear).failing(1, 0), word("b"));
+        answered(unclear, "ALIKE to it", refusedBefore(unclear).failing(1, 1), A);
+        CarriedLetters fails = told("script letters 3;pass again;rule a to b;rule b to a;rule c to cc");
+        answered(fails, "TOO LONG", refusedBefore(fails).fails(1, 0), 1);
+        answered(fails, "ENDLESS", refusedBefore(fails).fails(1, 1), 2);
+        answered(fails, "TOO LONG", refusedBefore(fails).firstFail(1, 0), word("c"));
+        answered(fails, "ENDLESS", refusedBefore(fails).firstFail(1, 1), A);
+    }
+
     private static void callsWithoutANumber() {
         about("III: TROUBLE of the latest call that may be refused (those of which a number is told here)");
         CarriedLetters x = told(FAILING);
@@ -859,6 +910,7 @@ public final class CarriedLettersBoundsOfCalls extends Asking {
         noScript();
         noScriptComesFirst();
         answeredLeavesNone();
+        eachAnswerLeavesNone();
         callsWithoutANumber();
         wordsThatCanBe();
         wordsThatCannotBe();

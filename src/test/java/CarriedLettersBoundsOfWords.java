@@ -369,6 +369,40 @@ public final class CarriedLettersBoundsOfWords extends Asking {
         due("none fails now", x.fails(1, 0), 0);
     }
 
+    /** What failed, or how it was tried without a RULE, must not be taken for what comes out now. */
+    private static void learnedByTrial() {
+        about("WORDS up to n: worst asked again, and for fewer of them than are known");
+        CarriedLetters more = told("script letters 3;pass;rule b to a;rule aa to c");
+        due("aa is ALIKE to c", more.failing(5, 0), word("b"));
+        due("but none of one letter", more.worst(1), 0);
+        for (int k = 0; k < 3; k++) {
+            due("of five letters", more.worst(5), 0);
+            due("of one letter again", more.worst(1), 0);
+        }
+        more.aside(0, 0, 1);
+        due("aa, and what begins with it", more.worst(2), 1);
+        due("none of one", more.worst(1), -2);
+        due("of two again", more.worst(2), 1);
+        about("worst: a WORD that FAILS without one RULE doesn't without another");
+        CarriedLetters grows = told("script letters 3;pass;rule a to b;rule c to b;pass again;rule a to aa");
+        due("all come out as b", grows.doubled(1), 2);
+        due("without either one is: the first", grows.worst(1), 0);
+        due("as ahead of it", grows.doubled(1), 2);
+        about("36 .. 38: One that FAILS comes out as no LETTERS at all");
+        CarriedLetters told = told(PASS + "rule a to h");
+        due("a", told.sources(1, word("h")), 1);
+        tell(told, AGAIN + "rule a to b;rule b to a");
+        due("none does now", told.sources(1, word("h")), 0);
+        refused(told, "nor is the first", told.source(1, word("h"), 0), 1);
+        due("none is longest", told.longest(1), -2);
+        about("comeBack: all WORDS that there may be, and then fewer");
+        tell(told, "script letters 4;pass;rule h to g");
+        due("all of 1364 come back", told.comeBack(5), 1364);
+        due("those of one letter", told.comeBack(1), 4);
+        tell(told, "script letters 4;pass;rule h to a");
+        due("those without an a: TURNED it is h", told.comeBack(5), 363);
+    }
+
     // ---- pieces
 
     private static void piecesOfAPass() {
@@ -524,6 +558,7 @@ public final class CarriedLettersBoundsOfWords extends Asking {
         failsAndDoubled();
         nearlyAllUnlike();
         learnedAnew();
+        learnedByTrial();
         piecesOfAPass();
         readingsOfLetters();
         clearPasses();
