@@ -159,10 +159,12 @@ public final class CarriedLettersBoundsOfCalls extends Asking {
         answered(x, "a READING", refusedBefore(x).readings(0, A), 1);
         CarriedLetters bold = told(BOLD);
         answered(bold, "no READING", refusedBefore(bold).readings(0, A), 0);
-        answered(x, "again: not SURE", refusedBefore(x).sure(), 0);
+        answered(x, "not SURE", refusedBefore(x).sure(), 0);
         CarriedLetters sure = told(PASS + "rule a to ab;rule b to a");
         answered(sure, "CLEAR", refusedBefore(sure).clear(0), 1);
         answered(sure, "SURE", refusedBefore(sure).sure(), 1);
+        CarriedLetters again = told(TWO + "pass again;rule a to ab;rule b to a");
+        answered(again, "CLEAR, but again: not SURE", refusedBefore(again).sure(), 0);
         CarriedLetters unclear = told(PASS + "rule a to b");
         answered(unclear, "not SURE", refusedBefore(unclear).sure(), 0);
         answered(unclear, "DOUBLED", refusedBefore(unclear).reversible(1), 0);

@@ -395,12 +395,15 @@ public final class CarriedLettersBoundsOfWords extends Asking {
         due("none does now", told.sources(1, word("h")), 0);
         refused(told, "nor is the first", told.source(1, word("h"), 0), 1);
         due("none is longest", told.longest(1), -2);
-        about("comeBack: all WORDS that there may be, and then fewer");
+        about("WORDS up to n: as many as there may be");
         tell(told, "script letters 4;pass;rule h to g");
         due("all of 1364 come back", told.comeBack(5), 1364);
         due("those of one letter", told.comeBack(1), 4);
         tell(told, "script letters 4;pass;rule h to a");
         due("those without an a: TURNED it is h", told.comeBack(5), 363);
+        tell(told, "script letters 4;pass;rule h to g;rule d to c");
+        due("of all of them the very last is DOUBLED, too", told.doubled(5), 1364 - 363);
+        due("the RULE that makes them so", told.worst(5), 1);
     }
 
     // ---- pieces

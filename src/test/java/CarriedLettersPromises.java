@@ -765,6 +765,24 @@ public final class CarriedLettersPromises extends Asking {
         due("it wasn't", e.trouble(), 0);
     }
 
+    private static void readme() {
+        about("README");
+        CarriedLetters x = new CarriedLetters();
+        due("feed", x.feed(0x73637269, 0x7074206c, 0x65747465, 0x72732032, 0x3b706173), 20);
+        due("feed", x.feed(0x733b7275, 0x6c652061, 0x20746f20, 0x62612020, 0x20202020), 40);
+        due("script", x.script(34), 1);
+        due("carry", x.carry(0x6162), 3);
+        due("out", x.out(0), 1);
+        due("reversible", x.reversible(5), 1);
+        due("trouble", x.trouble(), 0);
+        CarriedLetters lines = told("script letters 3;                           "
+                + "kind vow of ae;   pass;   rule ab to c;   rule after vow b before edge to none;   pass again;   rule bb to b");
+        due("passes", lines.about(2), 2);
+        due("rules", lines.about(3), 3);
+        carries(lines, "eb", "e");
+        carries(lines, "abcbbbb", "ccb");
+    }
+
     public static void main(String[] args) {
         newObject();
         feeding();
@@ -778,6 +796,7 @@ public final class CarriedLettersPromises extends Asking {
         wordsUpTo();
         rulesAndWords();
         acts();
+        readme();
         end();
     }
 }
